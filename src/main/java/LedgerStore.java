@@ -413,7 +413,7 @@ public final class LedgerStore {
             Arrays.fill(stored, NONE);
         }
 
-        void takeOver(Node other) {
+        void copyFrom(Node other) {
             up = other.up;
             fences = other.fences;
             storedCount = other.storedCount;
@@ -520,7 +520,7 @@ public final class LedgerStore {
             }
         }
 
-        void takeOver(Ledger other) {
+        void copyFrom(Ledger other) {
             ensembleSize = other.ensembleSize;
             writeQuorum = other.writeQuorum;
             ackQuorum = other.ackQuorum;
@@ -683,14 +683,14 @@ public final class LedgerStore {
                 Node from = other.node(n);
                 Node to = node(n);
                 if (from != null && to != null) {
-                    to.takeOver(from);
+                    to.copyFrom(from);
                 }
             }
             for (int l = 0; l < ledgerCount; l++) {
                 Ledger from = other.ledger(l);
                 Ledger to = ledger(l);
                 if (from != null && to != null) {
-                    to.takeOver(from);
+                    to.copyFrom(from);
                 }
             }
         }
