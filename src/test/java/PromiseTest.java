@@ -1,10 +1,7 @@
-import java.util.Arrays;
-import java.util.function.IntSupplier;
-
 /** Each promise of the document by ordinary inputs, by the edges it names, and by wrong inputs. */
 public final class PromiseTest {
-    private static final int MIN = Integer.MIN_VALUE;
-    private static final int MAX = Integer.MAX_VALUE;
+    private static final int MIN = Stores.MIN;
+    private static final int MAX = Stores.MAX;
     private static final Check check = new Check();
 
     public static void main(String[] args) {
@@ -42,30 +39,9 @@ public final class PromiseTest {
         fragments();
         underReplicated();
         undo();
-        undoRestores();
         undoneNumbers();
         digest();
         check.finish("PromiseTest");
-    }
-
-    private static LedgerStore withNodes(int nodes) {
-        LedgerStore x = new LedgerStore();
-        for (int n = 0; n < nodes; n++) {
-            x.addNode();
-        }
-        return x;
-    }
-
-    private static LedgerStore withLedger(int nodes, int e, int w, int a) {
-        LedgerStore x = withNodes(nodes);
-        check.due("createLedger", x.createLedger(e, w, a), 0);
-        return x;
-    }
-
-    private static void appendMany(LedgerStore x, int ledger, int count) {
-        for (int i = 0; i < count; i++) {
-            x.append(ledger, i);
-        }
     }
 
     // ---- promise 1
@@ -101,8 +77,8 @@ public final class PromiseTest {
 
     private static void crash() {
         check.part("promise 3, crash");
-        LedgerStore x = withLedger(2, 2, 2, 1);
-        appendMany(x, 0, 3);
+        LedgerStore x = Stores.withLedger(2, 2, 2, 1);
+        Stores.appendMany(x, 0, 3);
         x.deliver(1);
         check.due("crash(0)", x.crash(0), 3);
         check.due("crash(1)", x.crash(1), 2);
@@ -120,8 +96,8 @@ public final class PromiseTest {
 
     private static void restart() {
         check.part("promise 4, restart");
-        LedgerStore x = withLedger(2, 2, 2, 2);
-        appendMany(x, 0, 2);
+        LedgerStore x = Stores.withLedger(2, 2, 2, 2);
+        Stores.appendMany(x, 0, 2);
         x.deliverAll();
         x.crash(0);
         x.append(0, 7);
@@ -140,9 +116,9 @@ public final class PromiseTest {
 
     private static void deliver() {
         check.part("promise 5, deliver");
-        LedgerStore x = withLedger(2, 1, 1, 1);
+        LedgerStore x = Stores.withLedger(2, 1, 1, 1);
         check.due("deliver of an empty inbox", x.deliver(0), -1);
-        appendMany(x, 0, 2);
+        Stores.appendMany(x, 0, 2);
         check.due("deliver(0)", x.deliver(0), 1);
         check.due("holders(0, 0): the oldest comes first", x.holders(0, 0), 1);
         check.due("holders(0, 1)", x.holders(0, 1), 0);
@@ -161,7 +137,7 @@ public final class PromiseTest {
 
     private static void deliverAcknowledges() {
         check.part("promise 5, what a delivery acknowledges");
-        LedgerStore x = withLedger(3, 2, 2, 2);
+        LedgerStore x = Stores.withLedger(3, 2, 2, 2);
         x.append(0, 5);
         check.due("replace(0, 0)", x.replace(0, 0), 2);
         check.due("deliver(0) by a node that left the write set", x.deliver(0), 1);
@@ -169,7 +145,7 @@ public final class PromiseTest {
         check.due("holders(0, 0)", x.holders(0, 0), 1);
         check.due("deliver(1)", x.deliver(1), 1);
         check.due("acknowledgements(0, 0)", x.acknowledgements(0, 0), 1);
-        LedgerStore y = withLedger(3, 2, 2, 1);
+        LedgerStore y = Stores.withLedger(3, 2, 2, 1);
         y.append(0, 5);
         y.deliver(1);
         y.replace(0, 0);
@@ -181,7 +157,7 @@ public final class PromiseTest {
         check.due("deliver(0) outside the fenced ensemble", y.deliver(0), 1);
         check.due("holders(0, 0)", y.holders(0, 0), 3);
         check.due("acknowledgements(0, 0) when the ledger is closed", y.acknowledgements(0, 0), 1);
-        LedgerStore z = withLedger(2, 2, 2, 1);
+        LedgerStore z = Stores.withLedger(2, 2, 2, 1);
         z.crash(1);
         z.recover(0);
         z.restart(1);
@@ -191,9 +167,9 @@ public final class PromiseTest {
 
     private static void deliverAll() {
         check.part("promise 6, deliverAll");
-        LedgerStore x = withLedger(3, 3, 2, 2);
+        LedgerStore x = Stores.withLedger(3, 3, 2, 2);
         check.due("deliverAll() with nothing to do", x.deliverAll(), 0);
-        appendMany(x, 0, 4);
+        Stores.appendMany(x, 0, 4);
         x.crash(2);
         check.due("deliverAll()", x.deliverAll(), 6);
         check.due("inboxLength(0)", x.inboxLength(0), 0);
@@ -208,7 +184,7 @@ public final class PromiseTest {
 
     private static void inboxLength() {
         check.part("promise 7, inboxLength");
-        LedgerStore x = withNodes(1);
+        LedgerStore x = Stores.withNodes(1);
         for (int l = 0; l < 4; l++) {
             x.createLedger(1, 1, 1);
         }
@@ -233,16 +209,16 @@ public final class PromiseTest {
 
     private static void weight() {
         check.part("promise 8, weight");
-        LedgerStore x = withLedger(2, 2, 2, 2);
+        LedgerStore x = Stores.withLedger(2, 2, 2, 2);
         x.createLedger(1, 1, 1);
-        appendMany(x, 0, 3);
-        appendMany(x, 1, 2);
+        Stores.appendMany(x, 0, 3);
+        Stores.appendMany(x, 1, 2);
         x.deliverAll();
         check.due("weight(0): of all ledgers together", x.weight(0), 5);
         check.due("weight(1)", x.weight(1), 3);
         check.badArgument(x, "weight(2)", () -> x.weight(2));
         check.badArgument(x, "weight(-1)", () -> x.weight(-1));
-        LedgerStore y = withLedger(3, 2, 2, 2);
+        LedgerStore y = Stores.withLedger(3, 2, 2, 2);
         y.append(0, 1);
         y.deliver(1);
         y.replace(0, 1);
@@ -254,9 +230,9 @@ public final class PromiseTest {
 
     private static void share() {
         check.part("promise 9, share");
-        LedgerStore x = withLedger(4, 3, 2, 2);
+        LedgerStore x = Stores.withLedger(4, 3, 2, 2);
         check.dueFloat("share(0) with nothing stored", x.share(0), 0.0f);
-        appendMany(x, 0, 7);
+        Stores.appendMany(x, 0, 7);
         x.deliver(0);
         check.dueFloat("share(0) with all", x.share(0), 1.0f);
         check.dueFloat("share(1) with none", x.share(1), 0.0f);
@@ -272,7 +248,7 @@ public final class PromiseTest {
 
     private static void isFenced() {
         check.part("promise 10, isFenced");
-        LedgerStore x = withLedger(4, 2, 2, 2);
+        LedgerStore x = Stores.withLedger(4, 2, 2, 2);
         x.createLedger(2, 1, 1);
         check.due("isFenced(0, 0)", x.isFenced(0, 0), false);
         x.recover(0);
@@ -286,8 +262,8 @@ public final class PromiseTest {
         check.badArgument(x, "isFenced(0, 2)", () -> x.isFenced(0, 2));
         check.badArgument(x, "isFenced(-1, 0)", () -> x.isFenced(-1, 0));
         check.badArgument(x, "isFenced(0, -1)", () -> x.isFenced(0, -1));
-        LedgerStore y = withLedger(3, 2, 1, 1);
-        appendMany(y, 0, 1);
+        LedgerStore y = Stores.withLedger(3, 2, 1, 1);
+        Stores.appendMany(y, 0, 1);
         y.deliverAll();
         y.replace(0, 0);
         y.recover(0);
@@ -297,10 +273,10 @@ public final class PromiseTest {
 
     private static void rejections() {
         check.part("promise 11, rejections");
-        LedgerStore x = withLedger(2, 2, 2, 1);
+        LedgerStore x = Stores.withLedger(2, 2, 2, 1);
         x.createLedger(2, 2, 1);
-        appendMany(x, 0, 2);
-        appendMany(x, 1, 1);
+        Stores.appendMany(x, 0, 2);
+        Stores.appendMany(x, 1, 1);
         check.due("recover(0)", x.recover(0), -1);
         check.due("rejections()", x.rejections(), 0);
         check.due("deliverAll(): the other ledger's entry is stored", x.deliverAll(), 2);
@@ -315,7 +291,7 @@ public final class PromiseTest {
 
     private static void createLedger() {
         check.part("promise 12, createLedger");
-        LedgerStore x = withNodes(5);
+        LedgerStore x = Stores.withNodes(5);
         check.badArgument(x, "createLedger(0, 0, 0)", () -> x.createLedger(0, 0, 0));
         check.badArgument(x, "createLedger(6, 5, 5)", () -> x.createLedger(6, 5, 5));
         check.badArgument(x, "createLedger(3, 4, 1)", () -> x.createLedger(3, 4, 1));
@@ -346,7 +322,7 @@ public final class PromiseTest {
 
     private static void append() {
         check.part("promise 13, append");
-        LedgerStore x = withLedger(5, 5, 3, 2);
+        LedgerStore x = Stores.withLedger(5, 5, 3, 2);
         check.due("append", x.append(0, 0), 0);
         check.due("append", x.append(0, 999), 1);
         check.due("append", x.append(0, 1), 2);
@@ -367,7 +343,7 @@ public final class PromiseTest {
         x.deliverAll();
         check.due("read(0, 1)", x.read(0, 1), 999);
         check.due("read(0, 0)", x.read(0, 0), 0);
-        LedgerStore y = withLedger(1, 1, 1, 1);
+        LedgerStore y = Stores.withLedger(1, 1, 1, 1);
         y.crash(0);
         y.recover(0);
         check.badState(y, "append to a recovering ledger", () -> y.append(0, 0));
@@ -379,7 +355,7 @@ public final class PromiseTest {
     // The last confirmed entry of a request is the one of the time when it was sent.
     private static void appendCarriesConfirmed() {
         check.part("promise 13, the last confirmed entry in a request");
-        LedgerStore x = withLedger(3, 3, 3, 1);
+        LedgerStore x = Stores.withLedger(3, 3, 3, 1);
         x.append(0, 10);
         x.append(0, 11);
         x.deliver(0);
@@ -390,7 +366,7 @@ public final class PromiseTest {
         x.deliver(1);
         x.crash(0);
         check.due("recover(0) with one quorum member down", x.recover(0), -2);
-        LedgerStore y = withLedger(2, 2, 1, 1);
+        LedgerStore y = Stores.withLedger(2, 2, 1, 1);
         y.append(0, 10);
         y.append(0, 11);
         y.deliver(0);
@@ -406,7 +382,7 @@ public final class PromiseTest {
 
     private static void replace() {
         check.part("promise 14, replace");
-        LedgerStore x = withLedger(4, 2, 2, 2);
+        LedgerStore x = Stores.withLedger(4, 2, 2, 2);
         check.badArgument(x, "replace(0, 2)", () -> x.replace(0, 2));
         check.badArgument(x, "replace(0, -1)", () -> x.replace(0, -1));
         check.badArgument(x, "replace(1, 0)", () -> x.replace(1, 0));
@@ -432,10 +408,10 @@ public final class PromiseTest {
 
     private static void replaceBeginsFragment() {
         check.part("promise 14, a new fragment");
-        LedgerStore x = withLedger(4, 3, 2, 2);
-        appendMany(x, 0, 3);
+        LedgerStore x = Stores.withLedger(4, 3, 2, 2);
+        Stores.appendMany(x, 0, 3);
         x.deliverAll();
-        appendMany(x, 0, 4);
+        Stores.appendMany(x, 0, 4);
         check.due("replace(0, 2)", x.replace(0, 2), 3);
         check.due("fragmentCount(0)", x.fragmentCount(0), 2);
         check.due("firstEntry(0, 1)", x.firstEntry(0, 1), 3);
@@ -454,8 +430,8 @@ public final class PromiseTest {
 
     private static void replaceForgets() {
         check.part("promise 14, forgotten acknowledgements");
-        LedgerStore x = withLedger(3, 2, 2, 2);
-        appendMany(x, 0, 2);
+        LedgerStore x = Stores.withLedger(3, 2, 2, 2);
+        Stores.appendMany(x, 0, 2);
         x.deliver(0);
         x.deliver(0);
         x.deliver(1);
@@ -477,7 +453,7 @@ public final class PromiseTest {
 
     private static void replaceAtTheEnd() {
         check.part("promise 14, a fragment behind the last entry");
-        LedgerStore x = withLedger(2, 1, 1, 1);
+        LedgerStore x = Stores.withLedger(2, 1, 1, 1);
         for (int e = 0; e < 40; e++) {
             x.append(0, e);
             x.deliverAll();
@@ -495,8 +471,8 @@ public final class PromiseTest {
 
     private static void recover() {
         check.part("promise 15, recover");
-        LedgerStore x = withLedger(3, 3, 3, 2);
-        appendMany(x, 0, 4);
+        LedgerStore x = Stores.withLedger(3, 3, 3, 2);
+        Stores.appendMany(x, 0, 4);
         for (int i = 0; i < 3; i++) {
             x.deliver(2);
         }
@@ -511,16 +487,16 @@ public final class PromiseTest {
         check.badState(x, "recover(0) of a closed ledger", () -> x.recover(0));
         check.badArgument(x, "recover(1)", () -> x.recover(1));
         check.badArgument(x, "recover(-1)", () -> x.recover(-1));
-        LedgerStore y = withLedger(1, 1, 1, 1);
-        appendMany(y, 0, 40);
+        LedgerStore y = Stores.withLedger(1, 1, 1, 1);
+        Stores.appendMany(y, 0, 40);
         y.deliverAll();
         check.due("recover(0) of 40 entries", y.recover(0), 39);
     }
 
     private static void recoverUndecided() {
         check.part("promise 15, an undecided recovery");
-        LedgerStore x = withLedger(4, 4, 2, 2);
-        appendMany(x, 0, 2);
+        LedgerStore x = Stores.withLedger(4, 4, 2, 2);
+        Stores.appendMany(x, 0, 2);
         x.deliverAll();
         x.crash(0);
         x.crash(2);
@@ -549,7 +525,7 @@ public final class PromiseTest {
     // Entries up to the greatest stored last confirmed entry are taken as they are, and not copied.
     private static void recoverFromStoredConfirmed() {
         check.part("promise 15, the stored last confirmed entry");
-        LedgerStore x = withLedger(3, 3, 3, 2);
+        LedgerStore x = Stores.withLedger(3, 3, 3, 2);
         x.append(0, 10);
         x.deliver(0);
         x.deliver(1);
@@ -560,7 +536,7 @@ public final class PromiseTest {
         check.due("holders(0, 1): copied", x.holders(0, 1), 7);
         check.due("underReplicated(0)", x.underReplicated(0), 1);
         check.due("repair(0)", x.repair(0), 1);
-        LedgerStore y = withLedger(3, 3, 3, 2);
+        LedgerStore y = Stores.withLedger(3, 3, 3, 2);
         y.append(0, 10);
         y.deliver(1);
         y.deliver(2);
@@ -569,8 +545,8 @@ public final class PromiseTest {
         y.crash(2);
         check.due("recover(0): what a node that is down stores does not count", y.recover(0), 0);
         check.due("holders(0, 0): copied", y.holders(0, 0), 7);
-        LedgerStore z = withLedger(2, 1, 1, 1);
-        appendMany(z, 0, 3);
+        LedgerStore z = Stores.withLedger(2, 1, 1, 1);
+        Stores.appendMany(z, 0, 3);
         z.deliverAll();
         z.replace(0, 0);
         z.crash(0);
@@ -581,21 +557,21 @@ public final class PromiseTest {
 
     private static void recoverNothing() {
         check.part("promise 15, nothing to recover");
-        LedgerStore x = withLedger(3, 3, 2, 1);
+        LedgerStore x = Stores.withLedger(3, 3, 2, 1);
         check.due("recover(0) of an empty ledger", x.recover(0), -1);
         check.due("state(0)", x.state(0), 2);
         check.due("lastReadable(0)", x.lastReadable(0), -1);
         check.badState(x, "read(0, 0)", () -> x.read(0, 0));
         check.due("repair(0)", x.repair(0), 0);
-        LedgerStore y = withLedger(3, 3, 1, 1);
-        appendMany(y, 0, 3);
+        LedgerStore y = Stores.withLedger(3, 3, 1, 1);
+        Stores.appendMany(y, 0, 3);
         y.deliver(1);
         y.deliver(2);
         check.due("recover(0): entry 0 is lacking", y.recover(0), -1);
         check.due("appended(0)", y.appended(0), 3);
         check.due("holders(0, 1): what lies behind stays stored", y.holders(0, 1), 2);
-        LedgerStore z = withLedger(3, 3, 2, 2);
-        appendMany(z, 0, 3);
+        LedgerStore z = Stores.withLedger(3, 3, 2, 2);
+        Stores.appendMany(z, 0, 3);
         z.deliver(2);
         z.deliver(2);
         check.due("recover(0)", z.recover(0), -1);
@@ -604,11 +580,11 @@ public final class PromiseTest {
 
     private static void repair() {
         check.part("promise 16, repair");
-        LedgerStore x = withLedger(4, 3, 2, 2);
+        LedgerStore x = Stores.withLedger(4, 3, 2, 2);
         check.badState(x, "repair(0) of an open ledger", () -> x.repair(0));
         check.badArgument(x, "repair(1)", () -> x.repair(1));
         check.badArgument(x, "repair(-1)", () -> x.repair(-1));
-        appendMany(x, 0, 6);
+        Stores.appendMany(x, 0, 6);
         x.deliverAll();
         x.recover(0);
         check.due("repair(0) with nothing to do", x.repair(0), 0);
@@ -636,8 +612,8 @@ public final class PromiseTest {
     // Nodes are chosen for every fragment before anything is copied, so the weights do not change between.
     private static void repairChooses() {
         check.part("promise 16, fragment by fragment");
-        LedgerStore x = withLedger(3, 1, 1, 1);
-        appendMany(x, 0, 1);
+        LedgerStore x = Stores.withLedger(3, 1, 1, 1);
+        Stores.appendMany(x, 0, 1);
         x.deliverAll();
         check.due("replace(0, 0)", x.replace(0, 0), 1);
         check.due("recover(0)", x.recover(0), 0);
@@ -647,8 +623,8 @@ public final class PromiseTest {
         check.due("repair(0): the only copy is down", x.repair(0), 0);
         check.due("member(0, 0, 0)", x.member(0, 0, 0), 2);
         check.due("member(0, 1, 0): a fragment without entries too", x.member(0, 1, 0), 2);
-        LedgerStore y = withLedger(4, 2, 2, 1);
-        appendMany(y, 0, 2);
+        LedgerStore y = Stores.withLedger(4, 2, 2, 1);
+        Stores.appendMany(y, 0, 2);
         y.deliverAll();
         y.crash(1);
         check.due("replace(0, 1)", y.replace(0, 1), 2);
@@ -666,7 +642,7 @@ public final class PromiseTest {
 
     private static void read() {
         check.part("promise 17, read");
-        LedgerStore x = withLedger(3, 3, 2, 1);
+        LedgerStore x = Stores.withLedger(3, 3, 2, 1);
         x.append(0, 999);
         x.append(0, 0);
         check.badState(x, "read(0, 0) before it is confirmed", () -> x.read(0, 0));
@@ -683,7 +659,7 @@ public final class PromiseTest {
         check.due("read(0, 0) while its holder is down", x.read(0, 0), -1);
         x.restart(1);
         check.due("read(0, 0)", x.read(0, 0), 999);
-        LedgerStore y = withLedger(3, 2, 1, 1);
+        LedgerStore y = Stores.withLedger(3, 2, 1, 1);
         y.append(0, 8);
         y.replace(0, 0);
         y.deliver(0);
@@ -699,7 +675,7 @@ public final class PromiseTest {
 
     private static void stateOf() {
         check.part("promise 18, state");
-        LedgerStore x = withLedger(1, 1, 1, 1);
+        LedgerStore x = Stores.withLedger(1, 1, 1, 1);
         check.due("state(0)", x.state(0), LedgerStore.OPEN);
         x.crash(0);
         x.recover(0);
@@ -714,17 +690,17 @@ public final class PromiseTest {
 
     private static void lastReadable() {
         check.part("promise 19, lastReadable");
-        LedgerStore x = withLedger(2, 2, 2, 2);
+        LedgerStore x = Stores.withLedger(2, 2, 2, 2);
         check.due("lastReadable(0) of an empty ledger", x.lastReadable(0), -1);
-        appendMany(x, 0, 3);
+        Stores.appendMany(x, 0, 3);
         x.deliver(0);
         x.deliver(0);
         x.deliver(1);
         check.due("lastReadable(0)", x.lastReadable(0), 0);
         x.deliver(1);
         check.due("lastReadable(0)", x.lastReadable(0), 1);
-        LedgerStore y = withLedger(2, 2, 1, 1);
-        appendMany(y, 0, 3);
+        LedgerStore y = Stores.withLedger(2, 2, 1, 1);
+        Stores.appendMany(y, 0, 3);
         y.deliver(1);
         check.due("lastReadable(0): entry 0 is not confirmed", y.lastReadable(0), -1);
         y.deliver(0);
@@ -739,9 +715,9 @@ public final class PromiseTest {
 
     private static void appended() {
         check.part("promise 20, appended");
-        LedgerStore x = withLedger(1, 1, 1, 1);
+        LedgerStore x = Stores.withLedger(1, 1, 1, 1);
         check.due("appended(0)", x.appended(0), 0);
-        appendMany(x, 0, 2);
+        Stores.appendMany(x, 0, 2);
         check.due("appended(0)", x.appended(0), 2);
         x.recover(0);
         check.due("appended(0): also those that were not recovered", x.appended(0), 2);
@@ -751,7 +727,7 @@ public final class PromiseTest {
 
     private static void acknowledgements() {
         check.part("promise 21, acknowledgements");
-        LedgerStore x = withLedger(3, 3, 3, 2);
+        LedgerStore x = Stores.withLedger(3, 3, 3, 2);
         x.append(0, 1);
         check.due("acknowledgements(0, 0)", x.acknowledgements(0, 0), 0);
         x.deliver(2);
@@ -769,7 +745,7 @@ public final class PromiseTest {
 
     private static void holders() {
         check.part("promise 22, holders");
-        LedgerStore x = withLedger(3, 2, 2, 1);
+        LedgerStore x = Stores.withLedger(3, 2, 2, 1);
         x.append(0, 1);
         check.due("holders(0, 0)", x.holders(0, 0), 0);
         x.deliver(1);
@@ -788,10 +764,10 @@ public final class PromiseTest {
 
     private static void fragments() {
         check.part("promises 23 to 25, fragments");
-        LedgerStore x = withLedger(4, 2, 1, 1);
+        LedgerStore x = Stores.withLedger(4, 2, 1, 1);
         check.due("fragmentCount(0)", x.fragmentCount(0), 1);
         check.due("firstEntry(0, 0)", x.firstEntry(0, 0), 0);
-        appendMany(x, 0, 2);
+        Stores.appendMany(x, 0, 2);
         x.deliverAll();
         x.replace(0, 0);
         check.due("fragmentCount(0)", x.fragmentCount(0), 2);
@@ -799,7 +775,7 @@ public final class PromiseTest {
         check.due("member(0, 0, 0)", x.member(0, 0, 0), 0);
         check.due("member(0, 1, 0)", x.member(0, 1, 0), 2);
         check.due("member(0, 1, 1)", x.member(0, 1, 1), 1);
-        appendMany(x, 0, 1);
+        Stores.appendMany(x, 0, 1);
         x.deliverAll();
         x.replace(0, 1);
         check.due("firstEntry(0, 2)", x.firstEntry(0, 2), 3);
@@ -820,8 +796,8 @@ public final class PromiseTest {
 
     private static void underReplicated() {
         check.part("promise 26, underReplicated");
-        LedgerStore x = withLedger(3, 3, 2, 1);
-        appendMany(x, 0, 3);
+        LedgerStore x = Stores.withLedger(3, 3, 2, 1);
+        Stores.appendMany(x, 0, 3);
         check.due("underReplicated(0): nothing is readable", x.underReplicated(0), 0);
         x.deliver(0);
         check.due("underReplicated(0)", x.underReplicated(0), 1);
@@ -839,13 +815,13 @@ public final class PromiseTest {
 
     private static void undo() {
         check.part("promise 27, undo");
-        LedgerStore x = withNodes(3);
+        LedgerStore x = Stores.withNodes(3);
         check.due("undo()", x.undo(), 2);
         check.due("undo()", x.undo(), 1);
         check.due("undo()", x.undo(), 0);
         check.badState(x, "undo() of nothing", () -> x.undo());
         check.badArgument(x, "weight(0)", () -> x.weight(0));
-        LedgerStore y = withNodes(6);
+        LedgerStore y = Stores.withNodes(6);
         for (int left = 3; left >= 0; left--) {
             check.due("undo()", y.undo(), left);
         }
@@ -857,33 +833,10 @@ public final class PromiseTest {
         check.due("undo(): calls that change nothing are saved too", y.undo(), 1);
     }
 
-    private static void undoRestores() {
-        check.part("promise 27, each undoable call");
-        LedgerStore x = withLedger(4, 2, 2, 2);
-        undoGivesBack(x, "addNode()", () -> x.addNode());
-        undoGivesBack(x, "createLedger(3, 2, 1)", () -> x.createLedger(3, 2, 1));
-        undoGivesBack(x, "append(0, 7)", () -> x.append(0, 7));
-        appendMany(x, 0, 3);
-        undoGivesBack(x, "deliver(1)", () -> x.deliver(1));
-        undoGivesBack(x, "deliverAll()", () -> x.deliverAll());
-        x.deliver(0);
-        x.deliver(0);
-        x.deliver(1);
-        undoGivesBack(x, "replace(0, 1)", () -> x.replace(0, 1));
-        undoGivesBack(x, "crash(0)", () -> x.crash(0));
-        undoGivesBack(x, "recover(0)", () -> x.recover(0));
-        undoGivesBack(x, "deliver(2) of nothing", () -> x.deliver(2));
-        x.recover(0);
-        x.crash(0);
-        undoGivesBack(x, "restart(0)", () -> x.restart(0));
-        undoGivesBack(x, "repair(0)", () -> x.repair(0));
-        check.due("deliver(1): the inbox came back", x.deliver(1), 0);
-    }
-
     // Nothing of what was undone clings to a node or ledger that takes the same number later.
     private static void undoneNumbers() {
         check.part("promise 27, numbers that are given again");
-        LedgerStore x = withNodes(1);
+        LedgerStore x = Stores.withNodes(1);
         x.createLedger(1, 1, 1);
         x.addNode();
         x.replace(0, 0);
@@ -899,7 +852,7 @@ public final class PromiseTest {
         undoAll(x, 4);
         check.due("addNode()", x.addNode(), 1);
         check.due("weight(1)", x.weight(1), 0);
-        LedgerStore y = withNodes(1);
+        LedgerStore y = Stores.withNodes(1);
         y.createLedger(1, 1, 1);
         y.append(0, 3);
         y.deliver(0);
@@ -919,73 +872,9 @@ public final class PromiseTest {
         }
     }
 
-    private static void undoGivesBack(LedgerStore x, String call, Check.Call body) {
-        String before = everyAnswer(x);
-        body.run();
-        x.undo();
-        if (!everyAnswer(x).equals(before)) {
-            check.report("undo() of " + call + " does not give the state before it");
-        }
-    }
-
-    // The digest is left out, as the depth of the undo stack is in it.
-    private static String everyAnswer(LedgerStore x) {
-        StringBuilder all = new StringBuilder();
-        tell(all, () -> x.rejections());
-        for (int node = 0; node < 8; node++) {
-            int n = node;
-            tell(all, () -> x.inboxLength(n));
-            tell(all, () -> x.weight(n));
-            tell(all, () -> Float.floatToIntBits(x.share(n)));
-            tell(all, () -> isUp(x, n) ? 1 : 0);
-        }
-        for (int ledger = 0; ledger < 4; ledger++) {
-            tellLedger(all, x, ledger);
-        }
-        return all.toString();
-    }
-
-    private static void tellLedger(StringBuilder all, LedgerStore x, int l) {
-        tell(all, () -> x.state(l));
-        tell(all, () -> x.lastReadable(l));
-        tell(all, () -> x.appended(l));
-        tell(all, () -> x.underReplicated(l));
-        tell(all, () -> x.fragmentCount(l));
-        for (int number = 0; number < 40; number++) {
-            int i = number;
-            tell(all, () -> x.read(l, i));
-            tell(all, () -> x.acknowledgements(l, i));
-            tell(all, () -> x.holders(l, i));
-            tell(all, () -> x.firstEntry(l, i));
-            tell(all, () -> x.member(l, i / 5, i % 5));
-            tell(all, () -> x.isFenced(i % 8, l) ? 1 : 0);
-        }
-    }
-
-    // The face has no question for it: a node that is up can crash, which is undone at once.
-    private static boolean isUp(LedgerStore x, int node) {
-        try {
-            x.crash(node);
-        } catch (IllegalStateException e) {
-            return false;
-        }
-        x.undo();
-        return true;
-    }
-
-    private static void tell(StringBuilder all, IntSupplier question) {
-        String answer;
-        try {
-            answer = String.valueOf(question.getAsInt());
-        } catch (RuntimeException e) {
-            answer = e.getClass().getName();
-        }
-        all.append(answer).append(' ');
-    }
-
     private static void digest() {
         check.part("promise 28, digest");
-        LedgerStore x = withLedger(3, 2, 2, 1);
+        LedgerStore x = Stores.withLedger(3, 2, 2, 1);
         x.append(0, 10);
         x.append(0, 11);
         x.deliver(0);
@@ -1005,7 +894,6 @@ public final class PromiseTest {
                 1, 2, 2, 1, 2, 0, 2, 1, 2,
                 0, 0, 1, 1, 0, 2,
                 10, 2, 3, 11, 0, 0, 1, 0, 1));
-        manyShares();
     }
 
     private static long hash(int... values) {
@@ -1014,43 +902,5 @@ public final class PromiseTest {
             h = 31 * h + v;
         }
         return h;
-    }
-
-    // LedgerStore tells the bits of a share by arithmetic; here they are the library's, for many shares.
-    private static void manyShares() {
-        LedgerStore x = withLedger(3, 3, 2, 1);
-        for (int e = 0; e < 40; e++) {
-            x.append(0, e);
-        }
-        for (int i = 0; i < 78; i++) {
-            x.deliver(i * i % 7 % 3);
-            check.due("digest() after " + i + " deliveries", x.digest(), hashOfAnswers(x));
-        }
-    }
-
-    // For a full undo stack and one ledger (3, 2, 1) whose payloads are the numbers of its entries.
-    private static long hashOfAnswers(LedgerStore x) {
-        int[] v = new int[512];
-        int k = 0;
-        v[k++] = 4;
-        v[k++] = x.rejections();
-        v[k++] = 3;
-        for (int n = 0; n < 3; n++) {
-            v[k++] = 1;
-            v[k++] = x.inboxLength(n);
-            v[k++] = x.weight(n);
-            v[k++] = Float.floatToIntBits(x.share(n));
-        }
-        int[] ledger = {1, 3, 2, 1, x.state(0), x.lastReadable(0), x.appended(0), x.underReplicated(0),
-            x.fragmentCount(0), 0, 0, 1, 2};
-        for (int value : ledger) {
-            v[k++] = value;
-        }
-        for (int e = 0; e < x.appended(0); e++) {
-            v[k++] = e;
-            v[k++] = x.acknowledgements(0, e);
-            v[k++] = x.holders(0, e);
-        }
-        return hash(Arrays.copyOf(v, k + 3));
     }
 }
