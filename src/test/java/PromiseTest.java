@@ -39,7 +39,6 @@ public final class PromiseTest {
         fragments();
         underReplicated();
         undo();
-        undoneNumbers();
         digest();
         check.finish("PromiseTest");
     }
@@ -831,45 +830,6 @@ public final class PromiseTest {
         y.deliverAll();
         y.deliverAll();
         check.due("undo(): calls that change nothing are saved too", y.undo(), 1);
-    }
-
-    // Nothing of what was undone clings to a node or ledger that takes the same number later.
-    private static void undoneNumbers() {
-        check.part("promise 27, numbers that are given again");
-        LedgerStore x = Stores.withNodes(1);
-        x.createLedger(1, 1, 1);
-        x.addNode();
-        x.replace(0, 0);
-        x.append(0, 3);
-        x.recover(0);
-        undoAll(x, 4);
-        check.due("addNode()", x.addNode(), 1);
-        check.due("isFenced(1, 0)", x.isFenced(1, 0), false);
-        check.due("inboxLength(1)", x.inboxLength(1), 0);
-        x.replace(0, 0);
-        x.append(0, 4);
-        x.deliver(1);
-        undoAll(x, 4);
-        check.due("addNode()", x.addNode(), 1);
-        check.due("weight(1)", x.weight(1), 0);
-        LedgerStore y = Stores.withNodes(1);
-        y.createLedger(1, 1, 1);
-        y.append(0, 3);
-        y.deliver(0);
-        y.recover(0);
-        undoAll(y, 4);
-        check.due("createLedger(1, 1, 1)", y.createLedger(1, 1, 1), 0);
-        check.due("state(0)", y.state(0), 0);
-        check.due("appended(0)", y.appended(0), 0);
-        check.due("append(0, 5)", y.append(0, 5), 0);
-        check.due("acknowledgements(0, 0)", y.acknowledgements(0, 0), 0);
-        check.due("holders(0, 0)", y.holders(0, 0), 0);
-    }
-
-    private static void undoAll(LedgerStore x, int count) {
-        for (int left = count - 1; left >= 0; left--) {
-            check.due("undo()", x.undo(), left);
-        }
     }
 
     private static void digest() {

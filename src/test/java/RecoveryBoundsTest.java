@@ -41,6 +41,7 @@ public final class RecoveryBoundsTest {
         repairsWithTheLightest();
         repairsWhatCanBeRead();
         repairsToTheLastEntry();
+        repairsEveryFragment();
         repairsFortyEntries();
         check.finish("RecoveryBoundsTest");
     }
@@ -593,6 +594,25 @@ public final class RecoveryBoundsTest {
         check.due("repair(0)", y.repair(0), 2);
         check.due("holders(0, 1), the last entry", y.holders(0, 1), 3);
         check.due("holders(0, 2)", y.holders(0, 2), 0);
+    }
+
+    // Node 3 is empty until the last fragment has got it too: then only entries are copied.
+    private static void repairsEveryFragment() {
+        check.part("fragment by fragment, from the first to the last; then, for each readable entry");
+        LedgerStore x = Stores.withLedger(5, 2, 2, 2);
+        Stores.appendMany(x, 0, 2);
+        x.deliverAll();
+        check.due("replace(0, 0)", x.replace(0, 0), 2);
+        Stores.appendMany(x, 0, 2);
+        x.deliverAll();
+        check.due("recover(0)", x.recover(0), 3);
+        x.crash(1);
+        check.due("repair(0)", x.repair(0), 4);
+        check.due("member(0, 0, 0)", x.member(0, 0, 0), 0);
+        check.due("member(0, 0, 1)", x.member(0, 0, 1), 3);
+        check.due("member(0, 1, 0)", x.member(0, 1, 0), 2);
+        check.due("member(0, 1, 1)", x.member(0, 1, 1), 3);
+        check.due("underReplicated(0)", x.underReplicated(0), 0);
     }
 
     private static void repairsFortyEntries() {

@@ -19,6 +19,8 @@ public final class UndoBoundsTest {
         savesTheStateBefore();
         restoresEverything();
         numbersAreGivenAgain();
+        newNodesAreEmptyAgain();
+        newLedgersAreEmptyAgain();
         asksWithoutSaving();
         refusesWithoutSaving();
         digestOfANewObject();
@@ -215,6 +217,68 @@ public final class UndoBoundsTest {
             check.due("createLedger(1, 1, 1)", x.createLedger(1, 1, 1), l);
             int again = l;
             check.badArgument(x, "member(l, 0, 1) of the new ledger", () -> x.member(again, 0, 1));
+        }
+    }
+
+    private static void newNodesAreEmptyAgain() {
+        check.part("restores the saved state: nothing of a node that is gone clings to the next one");
+        LedgerStore x = Stores.withLedger(1, 1, 1, 1);
+        x.addNode();
+        x.replace(0, 0);
+        x.append(0, 3);
+        x.recover(0);
+        undoAll(x);
+        check.due("addNode()", x.addNode(), 1);
+        check.due("isFenced(1, 0)", x.isFenced(1, 0), false);
+        check.due("inboxLength(1)", x.inboxLength(1), 0);
+        check.due("deliver(1)", x.deliver(1), NONE);
+        x.undo();
+        x.replace(0, 0);
+        x.append(0, 4);
+        x.deliver(1);
+        check.due("weight(1)", x.weight(1), 1);
+        undoAll(x);
+        check.due("addNode()", x.addNode(), 1);
+        check.due("weight(1)", x.weight(1), 0);
+        x.crash(1);
+        x.undo();
+        x.undo();
+        check.due("addNode()", x.addNode(), 1);
+        check.due("crash(1): it is up", x.crash(1), 0);
+    }
+
+    private static void newLedgersAreEmptyAgain() {
+        check.part("restores the saved state: nothing of a ledger that is gone clings to the next one");
+        LedgerStore x = Stores.withLedger(1, 1, 1, 1);
+        x.append(0, 3);
+        x.deliver(0);
+        x.recover(0);
+        undoAll(x);
+        check.due("createLedger(1, 1, 1)", x.createLedger(1, 1, 1), 0);
+        check.due("state(0)", x.state(0), LedgerStore.OPEN);
+        check.due("appended(0)", x.appended(0), 0);
+        check.due("lastReadable(0)", x.lastReadable(0), NONE);
+        check.due("isFenced(0, 0)", x.isFenced(0, 0), false);
+        check.due("append(0, 5)", x.append(0, 5), 0);
+        check.due("acknowledgements(0, 0)", x.acknowledgements(0, 0), 0);
+        check.due("holders(0, 0)", x.holders(0, 0), 0);
+        check.due("lastReadable(0)", x.lastReadable(0), NONE);
+        LedgerStore y = Stores.withNodes(3);
+        y.createLedger(1, 1, 1);
+        y.append(0, 1);
+        y.deliver(0);
+        y.replace(0, 0);
+        check.due("fragmentCount(0)", y.fragmentCount(0), 2);
+        undoAll(y);
+        check.due("createLedger(2, 2, 2)", y.createLedger(2, 2, 2), 0);
+        check.due("fragmentCount(0)", y.fragmentCount(0), 1);
+        check.due("member(0, 0, 0)", y.member(0, 0, 0), 0);
+        check.due("member(0, 0, 1)", y.member(0, 0, 1), 1);
+    }
+
+    private static void undoAll(LedgerStore x) {
+        for (int left = 3; left >= 0; left--) {
+            check.due("undo()", x.undo(), left);
         }
     }
 
