@@ -25,6 +25,7 @@ public final class LedgerBoundsTest {
         requestCarriesConfirmed();
         acknowledgesWhileOpen();
         acknowledgesInItsWriteSet();
+        acknowledgesOnce();
         replaceOfAnEmptyLedger();
         replaceWithNothingConfirmed();
         replaceInPlace();
@@ -35,6 +36,9 @@ public final class LedgerBoundsTest {
         remembersTheOthers();
         sendsFromFirstToLast();
         sendsInAscendingOrder();
+        sendsWhatIsAcknowledged();
+        sendsWhatIsStored();
+        sendsTheLastConfirmed();
         lastReadableOfNone();
         appendedFromNoneToForty();
         acknowledgementsOfTheLast();
@@ -350,6 +354,32 @@ public final class LedgerBoundsTest {
         check.due("holders(0, 0)", x.holders(0, 0), 1 + 2 + 8);
     }
 
+    // Node 0 leaves and comes back, so that two requests for entry 0 wait in its inbox.
+    private static void acknowledgesOnce() {
+        check.part("the node has acknowledged the entry: once, also if it processes two requests for it");
+        LedgerStore x = Stores.withLedger(3, 2, 2, 2);
+        x.append(0, 5);
+        check.due("replace(0, 0)", x.replace(0, 0), 2);
+        check.due("replace(0, 0), which brings node 0 back", x.replace(0, 0), 0);
+        check.due("inboxLength(0)", x.inboxLength(0), 2);
+        check.due("deliver(0) of the request from before", x.deliver(0), 1);
+        check.due("acknowledgements(0, 0)", x.acknowledgements(0, 0), 1);
+        check.due("deliver(0) of the other request", x.deliver(0), 1);
+        check.due("acknowledgements(0, 0)", x.acknowledgements(0, 0), 1);
+        check.due("lastReadable(0)", x.lastReadable(0), NONE);
+        check.due("replace(0, 0)", x.replace(0, 0), 2);
+        check.due("replace(0, 0), which brings node 0 back", x.replace(0, 0), 0);
+        check.due("acknowledgements(0, 0): forgotten, though node 0 stores it", x.acknowledgements(0, 0), 0);
+        check.due("holders(0, 0)", x.holders(0, 0), 1);
+        check.due("crash(0), which loses the request", x.crash(0), 1);
+        check.due("restart(0)", x.restart(0), 1);
+        check.due("acknowledgements(0, 0): nothing was processed", x.acknowledgements(0, 0), 0);
+        x.undo();
+        x.undo();
+        check.due("deliver(0)", x.deliver(0), 1);
+        check.due("acknowledgements(0, 0)", x.acknowledgements(0, 0), 1);
+    }
+
     // ---- ENSEMBLE CHANGE
 
     private static void replaceOfAnEmptyLedger() {
@@ -516,6 +546,46 @@ public final class LedgerBoundsTest {
             check.due("holders of entry " + e, x.holders(0, e) & 8, 8);
         }
         check.due("deliver(3)", x.deliver(3), NONE);
+    }
+
+    private static void sendsWhatIsAcknowledged() {
+        check.part("for each entry from f on: also for one that A nodes have acknowledged, if it lies behind f");
+        LedgerStore x = Stores.withLedger(4, 3, 3, 1);
+        Stores.appendMany(x, 0, 2);
+        x.crash(0);
+        x.restart(0);
+        x.append(0, 2);
+        x.deliver(0);
+        check.due("acknowledgements(0, 2)", x.acknowledgements(0, 2), 1);
+        check.due("lastReadable(0)", x.lastReadable(0), NONE);
+        check.due("replace(0, 1)", x.replace(0, 1), 3);
+        check.due("inboxLength(3): entries 0 to 2", x.inboxLength(3), 3);
+    }
+
+    private static void sendsWhatIsStored() {
+        check.part("a request is sent to the chosen node: also if it stores the entry already");
+        LedgerStore x = Stores.withLedger(3, 2, 2, 2);
+        Stores.appendMany(x, 0, 2);
+        Stores.deliverMany(x, 0, 2);
+        check.due("replace(0, 0)", x.replace(0, 0), 2);
+        check.due("replace(0, 0), which brings node 0 back", x.replace(0, 0), 0);
+        check.due("weight(0)", x.weight(0), 2);
+        check.due("inboxLength(0)", x.inboxLength(0), 2);
+    }
+
+    // Were it any later than entry 0, recovery would begin behind entry 1 and not copy it.
+    private static void sendsTheLastConfirmed() {
+        check.part("a request is sent to the chosen node: it contains the last confirmed entry at that time");
+        LedgerStore x = Stores.withLedger(3, 2, 2, 2);
+        Stores.appendMany(x, 0, 4);
+        x.deliver(0);
+        x.deliver(1);
+        check.due("replace(0, 0)", x.replace(0, 0), 2);
+        Stores.deliverMany(x, 2, 3);
+        check.due("recover(0)", x.recover(0), 3);
+        for (int e = 1; e < 4; e++) {
+            check.due("holders(0, " + e + "): copied to node 1", x.holders(0, e), 2 + 4);
+        }
     }
 
     // ---- promises 19 to 25

@@ -29,6 +29,7 @@ public final class NodeBoundsTest {
         shareOfNothing();
         shareOfNoneAndAll();
         rejectionsOfNone();
+        rejectionsSoFar();
         fencedForEachLedger();
         check.finish("NodeBoundsTest");
     }
@@ -260,6 +261,9 @@ public final class NodeBoundsTest {
         x.crash(0);
         check.due("restart(0)", x.restart(0), 1);
         check.badState(x, "restart(0) again", () -> x.restart(0));
+        x.recover(0);
+        x.crash(0);
+        check.due("restart(0) of a fenced node", x.restart(0), 1);
     }
 
     private static void deliverOfAnEmptyInbox() {
@@ -387,6 +391,28 @@ public final class NodeBoundsTest {
         check.due("rejections()", y.rejections(), 0);
         y.deliverAll();
         check.due("rejections() of a full inbox", y.rejections(), 100);
+    }
+
+    private static void rejectionsSoFar() {
+        check.part("rejections: that have been rejected so far, of all nodes and ledgers; no call takes one back");
+        LedgerStore x = Stores.withLedger(3, 2, 2, 1);
+        x.createLedger(2, 2, 1);
+        x.append(0, 1);
+        x.append(1, 2);
+        x.recover(0);
+        check.due("deliverAll()", x.deliverAll(), 2);
+        check.due("rejections()", x.rejections(), 2);
+        x.append(1, 3);
+        x.replace(1, 0);
+        x.recover(1);
+        x.repair(0);
+        x.crash(2);
+        x.restart(2);
+        x.addNode();
+        x.createLedger(1, 1, 1);
+        check.due("rejections() after other calls", x.rejections(), 2);
+        x.deliverAll();
+        check.due("rejections() of the other ledger too", x.rejections(), 3);
     }
 
     private static void fencedForEachLedger() {

@@ -11,18 +11,22 @@ public final class RecoveryBoundsTest {
     public static void main(String[] args) {
         recoversUnlessClosed();
         fencesThoseThatAreUp();
+        fencesForGood();
         undecidedByExactlyA();
         undecidedByEveryWriteSet();
         undecidedAcrossTheEnd();
         undecidedInTheLastFragment();
+        undecidedByAnyEntryNumber();
         undecidedDoesNoMore();
         startsAtNone();
         startsAtTheLastFragment();
         startsAtTheGreatest();
+        startsAtTheGreatestOfOneNode();
         startsAtItsOwnLedger();
         recoversFortyEntries();
         recoversFewerThanForty();
         recoversToAGap();
+        recoversWithoutAcknowledgements();
         recoversNothing();
         copiesToThoseThatLackIt();
         readsToTheLastConfirmed();
@@ -40,6 +44,7 @@ public final class RecoveryBoundsTest {
         repairsWithOneNode();
         repairsWithTheLightest();
         repairsWhatCanBeRead();
+        repairsBehindALostEntry();
         repairsToTheLastEntry();
         repairsEveryFragment();
         repairsFortyEntries();
@@ -74,6 +79,21 @@ public final class RecoveryBoundsTest {
         }
         x.restart(2);
         check.due("isFenced(2, 0): it was down", x.isFenced(2, 0), false);
+    }
+
+    private static void fencesForGood() {
+        check.part("become fenced: a node stays fenced when it is down at the next recovery");
+        LedgerStore x = Stores.withLedger(2, 2, 2, 1);
+        x.crash(1);
+        check.due("recover(0)", x.recover(0), UNDECIDED);
+        x.crash(0);
+        check.due("recover(0) again", x.recover(0), UNDECIDED);
+        check.due("isFenced(0, 0)", x.isFenced(0, 0), true);
+        x.restart(0);
+        x.restart(1);
+        check.due("recover(0) with both up", x.recover(0), NONE);
+        check.due("isFenced(0, 0)", x.isFenced(0, 0), true);
+        check.due("isFenced(1, 0)", x.isFenced(1, 0), true);
     }
 
     private static void undecidedByExactlyA() {
@@ -158,6 +178,24 @@ public final class RecoveryBoundsTest {
         check.due("recover(0) with the node of the last fragment down", y.recover(0), UNDECIDED);
     }
 
+    // Position 0 of the last fragment holds node 2, position 1 node 1; each would have every second entry.
+    private static void undecidedByAnyEntryNumber() {
+        check.part("for some entry number e: also if the last fragment has few entries left for it, or none");
+        for (int confirmed = 37; confirmed <= 40; confirmed++) {
+            for (int node = 1; node <= 2; node++) {
+                LedgerStore x = Stores.withLedger(3, 2, 1, 1);
+                Stores.appendMany(x, 0, confirmed);
+                x.deliverAll();
+                check.due("replace(0, 0)", x.replace(0, 0), 2);
+                check.due("firstEntry(0, 1)", x.firstEntry(0, 1), confirmed);
+                x.crash(node);
+                check.due("recover(0) with node " + node + " down", x.recover(0), UNDECIDED);
+                x.restart(node);
+                check.due("recover(0) with all up", x.recover(0), confirmed - 1);
+            }
+        }
+    }
+
     private static void undecidedDoesNoMore() {
         check.part("the recovery stops undecided: RECOVERING and fenced, nothing stored, no last entry");
         LedgerStore x = Stores.withLedger(3, 3, 3, 2);
@@ -227,6 +265,22 @@ public final class RecoveryBoundsTest {
         check.due("holders(0, 1)", y.holders(0, 1), 4);
     }
 
+    private static void startsAtTheGreatestOfOneNode() {
+        check.part("the greatest that is stored with an entry: of several entries of one node, NONE to 38");
+        for (int last = 0; last < 40; last++) {
+            LedgerStore x = Stores.withLedger(2, 2, 2, 1);
+            for (int e = 0; e <= last; e++) {
+                x.append(0, e);
+                x.deliver(0);
+            }
+            check.due("recover(0)", x.recover(0), last);
+            for (int e = 0; e < last; e++) {
+                check.due("holders(0, " + e + "): known as confirmed, not copied", x.holders(0, e), 1);
+            }
+            check.due("holders(0, " + last + "): copied", x.holders(0, last), 3);
+        }
+    }
+
     private static void startsAtItsOwnLedger() {
         check.part("stored with an entry of this ledger");
         LedgerStore x = Stores.withLedger(2, 2, 2, 2);
@@ -280,6 +334,20 @@ public final class RecoveryBoundsTest {
         check.due("recover(0) without entry 2", x.recover(0), 1);
         check.due("lastReadable(0)", x.lastReadable(0), 1);
         check.due("holders(0, 3): it stays stored", x.holders(0, 3), 8);
+    }
+
+    // Node 0 stores entry 0, left and came back: its acknowledgement is forgotten, its copy is not.
+    private static void recoversWithoutAcknowledgements() {
+        check.part("if a node of the write set stores the entry, it is recovered: acknowledged or not");
+        LedgerStore x = Stores.withLedger(3, 2, 2, 2);
+        x.append(0, 6);
+        x.deliver(0);
+        check.due("replace(0, 0)", x.replace(0, 0), 2);
+        check.due("replace(0, 0)", x.replace(0, 0), 0);
+        check.due("acknowledgements(0, 0)", x.acknowledgements(0, 0), 0);
+        check.due("recover(0)", x.recover(0), 0);
+        check.due("holders(0, 0)", x.holders(0, 0), 3);
+        check.due("acknowledgements(0, 0): recovery adds none", x.acknowledgements(0, 0), 0);
     }
 
     private static void recoversNothing() {
@@ -572,6 +640,23 @@ public final class RecoveryBoundsTest {
         y.recover(0);
         y.crash(0);
         check.due("repair(0): all can be read from node 1", y.repair(0), 2);
+    }
+
+    private static void repairsBehindALostEntry() {
+        check.part("for each readable entry: if one can't be read, those behind it are copied all the same");
+        LedgerStore x = Stores.withLedger(5, 3, 2, 2);
+        Stores.appendMany(x, 0, 3);
+        x.deliverAll();
+        check.due("recover(0)", x.recover(0), 2);
+        x.crash(0);
+        x.crash(1);
+        check.due("repair(0)", x.repair(0), 2);
+        check.due("holders(0, 0): on the nodes 0 and 1 alone", x.holders(0, 0), 1 + 2);
+        check.due("holders(0, 1): copied to node 4", x.holders(0, 1), 2 + 4 + 16);
+        check.due("holders(0, 2): copied to node 3", x.holders(0, 2), 1 + 4 + 8);
+        check.due("read(0, 0)", x.read(0, 0), NONE);
+        check.due("read(0, 1)", x.read(0, 1), 1);
+        check.due("underReplicated(0)", x.underReplicated(0), 1);
     }
 
     private static void repairsToTheLastEntry() {
